@@ -1662,7 +1662,6 @@ public final class ThreeSittings {
     /** The prices that level what the parties choose. */
     private static final class Levelling {
         private final int[] prices = new int[MAX_SITTINGS];
-        private final int[] level = new int[MAX_SITTINGS];
         private final int[] persons = new int[MAX_SITTINGS];
         private boolean found = false;
         // The answer hangs on the text alone.
@@ -1673,44 +1672,34 @@ public final class ThreeSittings {
                 find(plan);
                 known = true;
             }
-            if (!found || sitting < 0 || sitting >= MAX_SITTINGS) {
-                return NO_ANSWER;
-            }
-            return level[sitting];
+            return found && sitting >= 0 && sitting < MAX_SITTINGS ? prices[sitting] : NO_ANSWER;
         }
 
+        /**
+         * Raises the price of a sitting that too many choose, until there is none. Who chooses it chooses it still if
+         * others get dearer, so in every row that levels its price is higher: the row that is found is below all others
+         * in each of its prices, and the least in sum.
+         */
         private void find(Plan plan) {
             found = false;
-            int least = 0;
             for (int k = 0; k < MAX_SITTINGS; k++) {
                 prices[k] = 0;
             }
-            boolean goesOn = true;
-            // 1000 rows of prices at most: all of 0 .. 9 for three sittings.
-            for (int row = 0; row < 1000 && goesOn; row++) {
-                int sum = prices[0] + prices[1] + prices[2];
-                if ((!found || sum < least) && isLevel(plan)) {
+            for (int step = 0; step <= MAX_SITTINGS * MOST_LEVEL_PRICE; step++) {
+                int full = tooFull(plan);
+                if (full < 0 || full >= MAX_SITTINGS) {
                     found = true;
-                    least = sum;
-                    System.arraycopy(prices, 0, level, 0, MAX_SITTINGS);
+                    return;
                 }
-                goesOn = stepOn(plan.sittings);
+                if (prices[full] >= MOST_LEVEL_PRICE) {
+                    return;
+                }
+                prices[full]++;
             }
         }
 
-        /** The next row of prices, the last sitting's first; false behind the last row. */
-        private boolean stepOn(int sittings) {
-            for (int k = Math.min(sittings, MAX_SITTINGS) - 1; k >= 0; k--) {
-                if (prices[k] < MOST_LEVEL_PRICE) {
-                    prices[k]++;
-                    return true;
-                }
-                prices[k] = 0;
-            }
-            return false;
-        }
-
-        private boolean isLevel(Plan plan) {
+        /** The first sitting that more persons choose than there are seats; NONE if there is none. */
+        private int tooFull(Plan plan) {
             for (int k = 0; k < MAX_SITTINGS; k++) {
                 persons[k] = 0;
             }
@@ -1718,12 +1707,14 @@ public final class ThreeSittings {
                 int chosen = plan.chosen(p, prices);
                 if (chosen >= 0 && chosen < MAX_SITTINGS) {
                     persons[chosen] += plan.trait(p, SIZE);
-                    if (persons[chosen] > plan.setting[SEATS]) {
-                        return false;
-                    }
                 }
             }
-            return true;
+            for (int k = 0; k < MAX_SITTINGS; k++) {
+                if (persons[k] > plan.setting[SEATS]) {
+                    return k;
+                }
+            }
+            return NONE;
         }
     }
 
