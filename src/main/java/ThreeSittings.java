@@ -748,14 +748,6 @@ public final class ThreeSittings {
             }
         }
 
-        int kindAt(int at) {
-            return at >= 0 && at < count ? kind[at] : END;
-        }
-
-        int valueAt(int at) {
-            return at >= 0 && at < count ? value[at] : 0;
-        }
-
         private static boolean isDigit(int c) {
             return c >= '0' && c <= '9';
         }
@@ -901,7 +893,11 @@ public final class ThreeSittings {
         }
 
         private int kind() {
-            return tokens.kindAt(at);
+            return at >= 0 && at < tokens.count ? tokens.kind[at] : END;
+        }
+
+        private int value() {
+            return at >= 0 && at < tokens.count ? tokens.value[at] : 0;
         }
 
         private boolean refuse(int why) {
@@ -922,7 +918,7 @@ public final class ThreeSittings {
             if (kind() != NUMBER) {
                 return refuse(FAULT_TOKEN);
             }
-            taken = tokens.valueAt(at);
+            taken = value();
             if (taken < least || taken > most) {
                 return refuse(FAULT_TOO_MUCH);
             }
@@ -955,7 +951,7 @@ public final class ThreeSittings {
             if (kind() != OWN_WORD) {
                 return refuse(FAULT_TOKEN);
             }
-            int letters = tokens.valueAt(at);
+            int letters = value();
             if (plan.numberOf(letters) != NONE) {
                 return refuse(FAULT_TOLD);
             }
@@ -1066,7 +1062,7 @@ public final class ThreeSittings {
             if (part != NUMBER && (part < FIRST_NAME || part >= FIRST_NAME + NAMES)) {
                 return refuse(FAULT_TOKEN);
             }
-            int number = tokens.valueAt(at);
+            int number = value();
             if (part == NUMBER && number > MOST_IN_LAW) {
                 return refuse(FAULT_TOO_MUCH);
             }

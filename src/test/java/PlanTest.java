@@ -128,6 +128,12 @@ public final class PlanTest {
         Kit.due("crowd(-1, 0)", x.crowd(-1, 0), -1);
         Kit.due("crowd(0, 2)", x.crowd(0, 2), -1);
         Kit.due("crowd(0, -1)", x.crowd(0, -1), -1);
+        x = Kit.told("party a 5 1 1 1 0 0 40;seats 4;over 9;sitting 7 1;law miss absent+late*10+date*20;");
+        x.give(0, 0);
+        Kit.due("by the law, late 0", x.crowd(0, 0), 3);
+        Kit.due("by the law, late 0", x.crowd(0, 1), 5);
+        x.days(1);
+        Kit.due("by the law, at the date", x.crowd(0, 0), 2);
         StringBuilder eight = new StringBuilder("seats 71;sitting 0 1;over 1;");
         for (char c = 'a'; c <= 'h'; c++) {
             eight.append("party ").append(c).append(" 9 1 1 1 1 1 1;");
