@@ -98,6 +98,30 @@ public final class ChangeTest {
         }
         Kit.due("undo", x.undo(), -1);
         Kit.due("the price behind the fifth", x.sitting(0, 1), 14);
+        // Of all kinds: 8 rounds of a ticket, a sign and a price; the first four are lost.
+        x = Kit.told(TEXT);
+        for (int round = 0; round < 8; round++) {
+            x.give(round % 3, round % 2);
+            x.sign(round % 2, 1 + (round / 2) % 3);
+            x.price(1 - round % 2, 50 + round);
+        }
+        int left = 20;
+        Kit.due("20 at most", x.count(14), left);
+        for (int round = 7; round > 1; round--) {
+            Kit.due("price of round " + round, x.sitting(1 - round % 2, 1), 50 + round);
+            Kit.due("undo", x.undo(), --left);
+            Kit.due("price ahead of round " + round, x.sitting(1 - round % 2, 1), 50 + round - 2);
+            Kit.due("sign of round " + round, x.sitting(round % 2, 2), 1 + (round / 2) % 3);
+            Kit.due("undo", x.undo(), --left);
+            Kit.due("sign ahead of round " + round, x.sitting(round % 2, 2), 1 + (round / 2 - 1) % 3);
+            Kit.ofParty(x, round % 3, 4, round % 2);
+            Kit.due("undo", x.undo(), --left);
+            Kit.ofParty(x, round % 3, 4, round < 3 ? -1 : 1 - round % 2);
+        }
+        Kit.due("undo", x.undo(), 1);
+        Kit.due("undo", x.undo(), 0);
+        Kit.due("undo", x.undo(), -1);
+        Kit.ofParty(x, 1, 4, 1);
     }
 
     private static void keepAndBack() {
@@ -130,6 +154,20 @@ public final class ChangeTest {
         x.days(1);
         Kit.due("back once more", x.back(), 10);
         Kit.due("as it was", print(x), then);
+        ThreeSittings z = Kit.told("party a 5 1 1 1 1 9 0;party b 5 1 1 1 1 9 0;party c 5 1 1 1 1 9 0;seats 5;over 99;"
+                + "sitting 0 1;sitting 9 1;");
+        for (int p = 0; p < 3; p++) {
+            z.give(p, 0);
+        }
+        z.days(2);
+        before = print(z);
+        z.keep();
+        z.give(2, -1);
+        z.give(1, -1);
+        z.days(3);
+        Kit.due("nobody stands now", z.sitting(0, 7), 0);
+        z.back();
+        Kit.due("who stood, who was hungry", print(z), before);
         ThreeSittings y = Kit.told(TEXT);
         y.keep();
         y.days(1);

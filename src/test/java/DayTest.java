@@ -3,6 +3,7 @@ public final class DayTest {
     public static void main(String[] args) {
         dates();
         standing();
+        firstStands();
         signs();
         laying();
         numbers();
@@ -63,6 +64,23 @@ public final class DayTest {
         x.days(2);
         Kit.due("hungry in all", x.count(9), 27);
         Kit.ofParty(x, 5, 8, 3);
+    }
+
+    private static void firstStands() {
+        // b stands from the first one and sits at the second, so that a, the first by number, stands there.
+        ThreeSittings x = Kit.told("party a 3 1 1 1 999 0 0;party b 4 1 1 1 999 0 0;party c 4 1 1 1 999 0 0;seats 5;"
+                + "over 9;sitting 0 1;sitting 100 10;sitting 200 50;");
+        x.give(0, 1);
+        x.give(1, 0);
+        x.give(2, 0);
+        x.days(1);
+        int[][] due = {{4, 4}, {4, 3}, {3, 0}};
+        for (int s = 0; s < 3; s++) {
+            Kit.due("sat", x.sitting(s, 6), due[s][0]);
+            Kit.due("stood", x.sitting(s, 7), due[s][1]);
+        }
+        Kit.ofParty(x, 0, 5, 1);
+        Kit.due("paid", x.count(10), 4 + 40 + 150);
     }
 
     private static void signs() {
@@ -228,19 +246,19 @@ public final class DayTest {
 
     private static void tried() {
         // a 4 sits, b 4 stands till the second, c has 60 of a hundred; a's stay makes the second late.
-        ThreeSittings x = Kit.told("party a 4 5 5 5 999 30 0;party b 4 6 7 8 999 0 0;party c 2 9 3 3 999 0 60;"
-                + "seats 7;over 9;sitting 0 1;sitting 40 1;lay 18;hands 2;law like wish*10-late;");
+        ThreeSittings x = Kit.told("party a 4 5 5 5 999 30 0;party b 4 6 7 8 999 0 0;party c 2 9 4 4 999 0 60;"
+                + "seats 7;over 9;sitting 0 1;sitting 39 1;lay 18;hands 2;law like wish*10-late;");
         x.give(0, 0);
         x.give(1, 0);
         x.give(2, 1);
-        Kit.due("as it is", x.tried(0, 0, 1), 4 * 50 + 4 * (70 - 29));
-        Kit.due("as it is, two days", x.tried(0, 0, 2), 2 * (4 * 50 + 4 * (70 - 29)));
-        Kit.due("nobody misses it", x.tried(1, 0, 1), 4 * 50 + 4 * (70 - 29) + 2);
+        Kit.due("as it is", x.tried(0, 0, 1), 4 * 50 + 4 * (70 - 30));
+        Kit.due("as it is, two days", x.tried(0, 0, 2), 2 * (4 * 50 + 4 * (70 - 30)));
+        Kit.due("nobody misses it", x.tried(1, 0, 1), 4 * 50 + 4 * (70 - 30) + 2 * (40 - 30));
         Kit.due("a doesn't come", x.tried(2, 0, 1), 4 * 60);
         Kit.due("b doesn't come", x.tried(2, 1, 1), 4 * 50);
         Kit.due("four seats more", x.tried(3, 0, 1), 4 * 50 + 4 * 60);
         Kit.due("nobody stays", x.tried(4, 0, 1), 4 * 50 + 4 * 70);
-        Kit.due("hands are 9", x.tried(5, 0, 1), 4 * 50 + 4 * (70 - 22));
+        Kit.due("hands are 9", x.tried(5, 0, 1), 4 * 50 + 4 * (70 - 23));
         Kit.due("no days", x.tried(0, 0, 0), 0);
         x.days(5);
         Kit.due("of these days alone", x.tried(4, 0, 20), 20 * (4 * 50 + 4 * 70));

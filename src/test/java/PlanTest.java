@@ -105,6 +105,11 @@ public final class PlanTest {
         Kit.due("all alike", x.level(2), 6);
         Kit.tell(x, "seats 5;sitting 0 1;");
         Kit.due("another text", x.level(0), 0);
+        x = Kit.told("party a 1 8 0 0 0 0 0;party b 1 8 0 0 0 0 0;party c 1 0 8 0 0 0 0;party d 1 0 8 0 0 0 0;"
+                + "party e 1 0 0 8 0 0 0;party f 1 0 0 8 0 0 0;seats 1;sitting 0 1;sitting 1 1;sitting 2 1;");
+        for (int s = 0; s < 3; s++) {
+            Kit.due("as dear as can be", x.level(s), 9);
+        }
     }
 
     private static void crowd() {
@@ -170,6 +175,13 @@ public final class PlanTest {
         x.give(2, 1);
         Kit.due("one that fits", x.swap(0), 0);
         Kit.due("one that fits", x.swap(1), 2);
+        // The other way round: 3 for 2 does not fit at the second.
+        x = Kit.told("party a 3 1 5 0 0 0 0;party b 2 5 1 0 0 0 0;party c 3 0 9 0 0 0 0;sitting 0 1;sitting 5 1;"
+                + "seats 5;over 0;");
+        x.give(0, 0);
+        x.give(1, 1);
+        x.give(2, 1);
+        Kit.due("none that fits", x.swap(0), -2);
         // Alike is not more.
         x = Kit.told("party a 2 5 5 0 0 0 0;party b 2 5 1 0 0 0 0;sitting 0 1;sitting 5 1;");
         x.give(0, 0);

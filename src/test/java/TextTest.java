@@ -71,6 +71,10 @@ public final class TextTest {
         Kit.faulty("Seats 5;", 1, 0);
         Kit.faulty("5;", 1, 0);
         Kit.faulty("like 5;", 1, 0);
+        cut("seats 99", "9;", 1, 8);
+        cut("sittin", "g 5 5;", 1, 0);
+        cut("law like 1<", "=1;", 1, 11);
+        Kit.faulty("law like 1<=", 1, 12);
         ThreeSittings x = Kit.told("seats 9;sitting 5 7;party a 3 1 1 1 1 1 1;law like 1+1;");
         x.give(0, 0);
         x.sign(0, 2);
@@ -104,6 +108,36 @@ public final class TextTest {
         Kit.due("no day", x.sitting(0, 4), -1);
         Kit.due("no glad", x.count(7), 0);
         Kit.due("no paid", x.count(10), 0);
+        String busy = "party a 1 1 1 1 1 1 100;party b 9 1 1 1 1 1 0;party c 1 1 1 1 1 1 0;seats 8;over 9;sitting 5 7;";
+        Kit.tell(x, busy);
+        for (int p = 0; p < 3; p++) {
+            x.give(p, 0);
+        }
+        x.days(1);
+        int[][] had = {{0, 0, 1, 0}, {0, 0, 0, 1}, {1, 1, 0, 0}};
+        for (int p = 0; p < 3; p++) {
+            for (int what = 5; what < 9; what++) {
+                Kit.ofParty(x, p, what, had[p][what - 5]);
+            }
+        }
+        Kit.due("hungry", x.count(9), 9);
+        Kit.tell(x, busy);
+        for (int p = 0; p < 3; p++) {
+            for (int what = 5; what < 9; what++) {
+                Kit.ofParty(x, p, what, 0);
+            }
+        }
+        Kit.due("no hungry", x.count(9), 0);
+        Kit.due("no cross", x.count(8), 0);
+    }
+
+    /** A text that ends where more of the tape is behind it. */
+    private static void cut(String text, String behind, int fault, int place) {
+        ThreeSittings x = new ThreeSittings();
+        Kit.feed(x, Kit.bytes(text + behind));
+        Kit.due("text '" + text + "'", x.text(text.length()), -1);
+        Kit.due("fault(0) of '" + text + "'", x.fault(0), fault);
+        Kit.due("fault(1) of '" + text + "'", x.fault(1), place);
     }
 
     private static void words() {
@@ -171,9 +205,16 @@ public final class TextTest {
         Kit.right("law like ((((((((1))))))))+((((((((1))))))));", 1);
         Kit.right("law like " + "not ".repeat(63) + "1;", 1);
         Kit.faulty("law like " + "not ".repeat(64) + "1;", 2, 9 + 64 * 4);
-        Kit.right("law like " + "1+".repeat(31) + "not".replace("not", "1") + ";law stay 2;", 2);
+        Kit.faulty("law like " + "not ".repeat(65) + "1;", 2, 9 + 64 * 4);
+        Kit.right("law like " + "1+".repeat(31) + "1;law stay 2;", 2);
         Kit.faulty("law like " + "1+".repeat(31) + "1;law stay 2+2;", 2, 9 + 62 + 2 + 9 + 1);
         Kit.faulty("law like " + "1+".repeat(31) + "1;law stay 2 2;", 1, 9 + 62 + 2 + 9 + 2);
+        ThreeSittings x = Kit.told("party a 1 1 1 1 1 1 1;sitting 1 1;");
+        for (int k = 0; k < 5; k++) {
+            Kit.tell(x, "party a 1 1 1 1 1 1 1;sitting 1 1;law miss " + "1+".repeat(30) + k + ";");
+            Kit.due("knots of text " + k, x.count(5), 61);
+            Kit.due("law of text " + k, x.law(2, 0, 0, 0), 30 + k);
+        }
         Kit.due("knots", Kit.told("law like (1+2)*(size<=wish) and not(0)or late;law miss 7;").count(5), 13);
     }
 
