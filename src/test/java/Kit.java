@@ -21,6 +21,14 @@ final class Kit {
         due(call, got ? 1 : 0, want ? 1 : 0);
     }
 
+    static void due(String call, String got, String want) {
+        compared++;
+        if (!got.equals(want)) {
+            wrong++;
+            System.out.println(call + " answered\n  " + got + ", due is\n  " + want);
+        }
+    }
+
     /** Ends the test: exit code 1 if an answer was wrong, or if nothing was compared. */
     static void end(String test) {
         System.out.println(test + ": " + compared + " answers compared, " + wrong + " wrong");
@@ -95,5 +103,30 @@ final class Kit {
         } catch (RuntimeException e) {
             due("party(" + party + ", " + what + ") threw " + e, 1, 0);
         }
+    }
+
+    /** All answers that tell what is and what was. */
+    static String print(ThreeSittings x) {
+        StringBuilder all = new StringBuilder();
+        for (int what = 0; what < 15; what++) {
+            all.append(x.count(what)).append(' ');
+        }
+        for (int p = 0; p < x.count(0); p++) {
+            all.append("| ");
+            for (int what = 0; what < 9; what++) {
+                all.append(x.party(p, what)).append(' ');
+            }
+            for (int s = 0; s < 3; s++) {
+                all.append(x.wish(p, s)).append(' ').append(x.law(0, p, s, 7)).append(' ').append(x.likes(p, s)).append(' ');
+                all.append(x.law(1, p, s, 7)).append(' ').append(x.law(2, p, s, 7)).append(' ');
+            }
+        }
+        for (int s = 0; s < x.count(1); s++) {
+            all.append("| ");
+            for (int what = 0; what < 9; what++) {
+                all.append(x.sitting(s, what)).append(' ');
+            }
+        }
+        return all.toString();
     }
 }
