@@ -8,8 +8,9 @@ import java.util.Random;
 
 /** All promises: random texts and random calls, ThreeSittings against Model. */
 public final class ModelTest {
-    private static final int RUNS = 500;
-    private static final int CALLS = 300;
+    private static final int RUNS = 350;
+    // With those that tell the first text nearly all of the 512 calls of which the document speaks.
+    private static final int CALLS = 470;
 
     private final Random random;
     private final ThreeSittings x = new ThreeSittings();

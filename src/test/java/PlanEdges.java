@@ -75,6 +75,7 @@ public final class PlanEdges {
         backWithoutImage();
         counts();
         countOfNoSuch();
+        eightAboard();
         Kit.end("PlanEdges");
     }
 
@@ -1352,5 +1353,25 @@ public final class PlanEdges {
         for (int wild : WILD) {
             Kit.due("count(" + wild + ")", x.count(wild), -1);
         }
+    }
+
+    /** "PARTIES, at most 8": sums and the most of all eight, and of fewer told behind them. */
+    private static void eightAboard() {
+        StringBuilder text = new StringBuilder("seats 99;sitting 0 1;");
+        for (char c = 'a'; c <= 'h'; c++) {
+            text.append("party ").append(c).append(" 9 1 1 1 ").append(c == 'h' ? 0 : 999).append(" 0 0;");
+        }
+        ThreeSittings x = given(text.toString(), 0, 0, 0, 0, 0, 0, 0, 0);
+        x.days(1);
+        Kit.due("persons", x.count(3), 72);
+        Kit.due("with tickets", x.count(11), 72);
+        Kit.due("without", x.without(), 0);
+        Kit.due("cross most", x.mostCross(0), 7);
+        Kit.due("how often", x.mostCross(1), 1);
+        Kit.due("cross in all", x.count(8), 1);
+        Kit.tell(x, "party a 2 1 1 1 1 1 1;");
+        Kit.due("persons of one", x.count(3), 2);
+        Kit.due("without, of one", x.without(), 2);
+        Kit.due("nobody is cross", x.mostCross(1), 0);
     }
 }
